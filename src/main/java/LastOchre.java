@@ -878,7 +878,6 @@ public final class LastOchre {
 
         /** The one letter of a TOKEN; UNREADABLE, if it has more or is none of letters. */
         private int readLetter() {
-            findToken();
             if (!isLetterAt(place) || isLetterAt(place + 1)) {
                 return UNREADABLE;
             }
@@ -897,7 +896,7 @@ public final class LastOchre {
 
         private int readNumber(int least, int most) {
             findToken();
-            while (isDigitAt(place)) {
+            while (place < length && isDigitAt(place)) {
                 place++;
             }
             int digits = place - tokenStart;
