@@ -79,7 +79,9 @@ public final class EdgesOfTheText {
         fault("4: the last byte of the longest text", BLANKS.substring(0, 149) + ";", 149);
         fault("4: the longest text ends too early", BLANKS.substring(0, 149) + "b", 150);
         fault("4: the longest text ends too early in a NUMBER", BLANKS.substring(0, 148) + "b1", 150);
-        fault("4: the longest text ends too early in figures", BLANKS.substring(0, 143) + "s1 2 34", 150);
+        fault("4: the longest text ends too early in figures", BLANKS.substring(0, 144) + "s1 2 3", 150);
+        fault("4: the longest text ends too early ahead of figures", BLANKS.substring(0, 145) + "s1 1 ", 150);
+        fault("4: the longest text ends too early behind figures", BLANKS.substring(0, 144) + "s1 1 3", 150);
         reads("4: 150 blanks", BLANKS, 0);
     }
 
@@ -88,6 +90,8 @@ public final class EdgesOfTheText {
         Runs.run("3: THE TEXT is empty", "text b7", "clear = 2", "text ;", "hill = -10");
         Runs.run("3: nothing is left of it behind a shorter one", "text b11;", "clear = 4", "text b1", "hill = -12");
         Runs.run("3: nothing is left of it behind letters", "text bb1;", "clear = 4", "text b", "hill = -11");
+        Runs.run("3: nothing is left of it behind figures", "text s1 2 34;", "clear = 8", "text s1 2 3", "hill = -16", "clear = 6", "text s1 2 ", "hill = -15");
+        Runs.run("3: nothing is left of it behind a NUMBER", "text b1;", "clear = 3", "text b1", "hill = -12");
         Runs.nothingChanges("3: nothing but THE TEXT changes", SCENE, "clear = 0");
         Runs.same("3: clear() and what was typed", SCENE, Runs.steps(SCENE, "text b7;", "clear = 3"));
     }
@@ -367,6 +371,12 @@ public final class EdgesOfTheText {
         Runs.run("4: nothing is left of a bigger text", big, "hill = 9", "text s1 1 5;t1 0 0 1;", "hill = 2", "now 6 = 5", "now 5 = 1", "now 4 = 1", "now 3 = 1",
             "cell 1 0 0 = BAD", "cell 0 1 0 = BAD", "thing 1 0 = BAD", "bestDig 16 0 = 1", "bestDig 16 1 = 5", "kept 0 0 = 1", "rich = NONE", "first = NONE", "years 1 = 1");
         Runs.run("4: nothing is left of a bigger text two texts ago", big, "hill = 9", "text b5;", "hill = 1", "text s2 1 12;t1 0 0 1;", "hill = 2", "now 6 = 3", "bestDig 16 0 = 3", "now 5 = 1");
+        String narrow = "text s2 4 11111111;";
+        String wide = "text s4 2 11111111;";
+        Runs.run("4: nothing is left of a narrower text two texts ago", narrow, "hill = 1", "hill = 0", wide, "hill = 1", "digs 2 0 = 1", "digs 2 1 = 2", "cell 1 1 2 = 1", "cell 3 1 2 = 1", "digs 1 1 = 3", "cell 0 1 2 = 1");
+        Runs.run("4: nothing is left of a narrower text two texts ago", narrow, "hill = 1", "hill = 0", wide, "hill = 1", "digs 1 0 = 1", "digs 1 1 = 2", "cell 2 1 2 = 1", "cell 0 1 2 = 1");
+        Runs.run("4: nothing is left of a wider text two texts ago", wide, "hill = 1", "hill = 0", narrow, "hill = 1", "digs 0 0 = 1", "digs 0 1 = 2", "digs 0 2 = 3", "digs 0 3 = 4", "cell 1 3 2 = 1", "cell 1 1 2 = 1");
+        Runs.run("4: nothing is left of a wider text two texts ago", wide, "hill = 1", "hill = 0", narrow, "hill = 1", "digs 1 0 = 1", "digs 1 1 = 2", "digs 1 2 = 3", "digs 1 3 = 4", "cell 0 3 2 = 1", "cell 0 2 2 = 1");
         Runs.run("4: nothing is left of a refused bigger text", big, "type 59 = 86", "hill = -95", "clear = 86", "text s2 1 12;t1 0 0 1;", "hill = 2", "now 6 = 3", "count 3 = 5", "count 4 = 3",
             "bestDig 16 0 = 3", "now 5 = 1", "count 2 = 1");
     }

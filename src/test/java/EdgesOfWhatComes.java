@@ -15,6 +15,7 @@ public final class EdgesOfWhatComes {
         keptByWhatThereIs();
         keptOfSeveral();
         bestDig();
+        bestDigAskedAgain();
         bestDigOfSeveral();
         far();
         farAtMost999();
@@ -148,6 +149,14 @@ public final class EdgesOfWhatComes {
         Runs.run("18: upward, too", told("s3 3 000 900 990;"), "bestDig 3 1 = 18", "bestDig 3 0 = 73", "digs 2 0 = 0", "digs 2 1 = 0", "digs 2 2 = 0", "bestDig 1 0 = 128", "bestDig 2 0 = 192", "bestDig 3 0 = 200", "bestDig 3 1 = 27");
     }
 
+    private static void bestDigAskedAgain() {
+        String[] nines = told("s4 4 9999999999999999;");
+        Runs.run("18: asked again when a CELL is DUG, and when it is UNDONE", nines, "bestDig 16 1 = 144", "bestDig 16 0 = 65535", "bestDig 1 0 = 1", "digs 0 0 = 9", "bestDig 16 1 = 135", "bestDig 16 0 = 65534",
+            "bestDig 15 0 = 65534", "bestDig 1 0 = 2", "undo = 0", "bestDig 16 1 = 144", "bestDig 16 0 = 65535", "bestDig 0 0 = 0");
+        Runs.run("18: asked again when other CELLS are told", nines, "bestDig 16 1 = 144", told("s4 4 0000000000000001;"), "bestDig 16 1 = 1", "bestDig 16 0 = 34952", "bestDig 3 0 = 0", told("s1 1 0;"), "bestDig 16 1 = 0", "bestDig 16 0 = 0");
+        Runs.run("18: asked again behind an IMAGE", nines, "keep 0 = 0", "bestDig 16 1 = 144", "digs 3 0 = 9", "bestDig 16 1 = 135", "back 0 = 0", "bestDig 16 1 = 144", "bestDig 16 0 = 65535");
+    }
+
     private static void bestDigOfSeveral() {
         Runs.run("18: the one of fewest CELLS: none, where nothing comes out", told("s4 4 0000000000000000;"), "bestDig 16 0 = 0", "bestDig 16 1 = 0");
         Runs.run("18: the one of fewest CELLS: none of PARTS 0", told("s3 1 050;"), "bestDig 3 0 = 2", "bestDig 3 1 = 5");
@@ -165,6 +174,8 @@ public final class EdgesOfWhatComes {
         Runs.run("19: no THINGS yet: BAD", "far 0 = BAD");
         Runs.nothingChanges("19: nothing is changed", SCENE, "far 0 = 0", "far 1 = -5", "far 2 = -5");
         Runs.run("19: -5: it is not CALLED", told("t0 0 0 0;t0 1 0 0;t4 5 0 0;t1 2 0 0;"), "far 0 = -5", "far 1 = -5", "far 2 = -5", "far 3 = -5");
+        Runs.run("19: -5: it is not CALLED, though it FADES and was", told("t4 5 9 0;t5 5 1 0;t0 0 9 0;"), "far 0 = -5", "far 2 = -5", "years 1 = 0", "far 1 = -5", "far 0 = -5");
+        Runs.run("19: CALLED now, whatever it is in a YEAR", told("t9 3 9 0;t5 5 9 0;"), "far 0 = 6", "far 1 = 0");
         Runs.run("19: none more: it is just CALLED", told("t5 5 0 0;t1 1 0 0;"), "far 0 = 0", "far 1 = 0", "stretches 0 1 = 6", "far 0 = -5");
         Runs.run("19: BOUND 10: none", told("t60 0 0 0;t1 0 0 0;t1 1 0 0;b10;"), "far 0 = 0", "far 1 = 0", "far 2 = -5");
         for (int bound = 1; bound <= 10; bound++) {
@@ -196,6 +207,8 @@ public final class EdgesOfWhatComes {
         Runs.run("20: within n (0 .. 60) YEARS: the last one", sixty, "sell 0 60 0 = 60", "sell 0 60 1 = 18", "sell 0 59 0 = 0", "sell 0 59 1 = 9");
         Runs.run("20: within n (0 .. 60) YEARS: now", told("t1 0 0 9;t1 0 1 9;"), "sell 0 0 0 = 0", "sell 0 0 1 = 9", "sell 0 1 0 = 1", "sell 0 1 1 = 18");
         Runs.run("20: 0, if it is not CALLED", told("t4 5 0 9;t0 0 0 9;t60 60 9 9;"), "sell 0 60 0 = 0", "sell 0 60 1 = 0", "sell 1 60 1 = 0", "sell 2 0 1 = 27", "sell 2 60 0 = 0");
+        Runs.run("20: 0, if it is not CALLED any more", told("t4 5 1 9;t5 5 1 9;"), "sell 0 0 1 = 0", "sell 0 60 1 = 0", "sell 1 60 1 = 18", "years 1 = 0", "sell 1 0 1 = 0", "sell 1 60 1 = 0", "sell 1 60 0 = 0");
+        Runs.run("20: how many are not CALLED now, whatever they were", told("t9 0 0 9;t4 5 1 9;t5 5 1 9;"), "sell 0 0 1 = 18", "sell 0 1 1 = 27", "years 1 = 1", "sell 0 0 1 = 27", "sell 0 60 0 = 0");
         Runs.run("20: WORTH 0", told("t9 0 0 0;t9 0 1 0;"), "sell 0 60 0 = 0", "sell 0 60 1 = 0");
         Runs.run("20: the dearest: WORTH 99, five that are not CALLED", told("t1 0 0 99;" + "t0 0 0 0;".repeat(5)), "sell 0 0 1 = 594", "sell 0 60 1 = 594", "sell 0 60 0 = 0");
         Runs.run("20: times 1, all are CALLED", told("t1 0 0 99;t1 0 0 1;"), "sell 0 60 1 = 99", "sell 0 60 0 = 0");
@@ -216,6 +229,7 @@ public final class EdgesOfWhatComes {
         Runs.nothingChanges("21: nothing is changed", SCENE, "spare 0 = 0", "spare 1 = 0", "spare 2 = 0");
         Runs.run("21: 0, if it is not CALLED", told("t0 0 0 0;t4 5 0 0;t0 5 0 0;t59 60 0 0;"), "spare 0 = 0", "spare 1 = 0", "spare 2 = 0", "spare 3 = 0");
         Runs.run("21: 0, if it is just CALLED", told("t5 5 0 0;t1 0 0 0;t60 60 0 0;"), "spare 0 = 0", "spare 1 = 0", "spare 2 = 0");
+        Runs.run("21: CALLED now, whatever it is in a YEAR", told("t9 3 9 0;t60 0 9 0;t4 5 9 0;t5 5 9 0;"), "spare 0 = 6", "spare 1 = 59", "spare 2 = 0", "spare 3 = 0", "rich = 1");
         Runs.run("21: CALLED yet: some YELLOW is left", told("t60 0 0 0;t2 0 0 0;b1;"), "spare 0 = 59", "spare 1 = 1");
         Runs.run("21: CALLED yet: BOUND 10", told("t60 0 0 0;t60 1 0 0;b10;"), "spare 0 = 59", "spare 1 = 0");
         for (int bound = 1; bound <= 9; bound++) {

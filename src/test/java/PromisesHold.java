@@ -269,6 +269,11 @@ public final class PromisesHold {
             due("bestDig", x.bestDig(16, 1), i % 2 == 0 ? 0 : 5);
             due("fits", x.fits(-1), 1);
         }
+        nothingIsLeftBehindTheEnd();
+    }
+
+    private static void nothingIsLeftBehindTheEnd() {
+        LastOchre x = new LastOchre();
         typed(x, "bb1;");
         typed(x, "b");
         due("letters behind the end", x.hill(), -11);
@@ -278,6 +283,7 @@ public final class PromisesHold {
         typed(x, "b1;");
         typed(x, "b1");
         due("an end behind the end", x.hill(), -12);
+        x = new LastOchre();
         String blanks = " ".repeat(150);
         typed(x, blanks.substring(0, 149) + "b");
         due("150 bytes, a letter", x.hill(), -160);
