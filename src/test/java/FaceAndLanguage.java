@@ -128,6 +128,17 @@ public final class FaceAndLanguage {
             check(allowed.contains(library.group(2)), "library call " + library.group());
         }
         onlyConstructorsMake(code);
+        methodsAreShort(code);
+    }
+
+    private static void methodsAreShort(String code) {
+        Matcher method = Pattern.compile("(?m)^( {4}| {8})\\w[^\n;=]*\\([^\n]*\\) \\{\n(.*?)^\\1\\}$", Pattern.DOTALL).matcher(code);
+        int found = 0;
+        while (method.find()) {
+            found++;
+            check(method.group().split("\n").length <= 60, "a method of over sixty lines: " + method.group().trim().split("\n")[0]);
+        }
+        check(found > METHODS.length, "methods are not found by their looks");
     }
 
     /** All calls of a run share one room, so nothing is made but by a constructor or a field's initialiser. */
