@@ -4,8 +4,8 @@ import java.util.List;
 import java.util.Random;
 
 /**
- * Texts put together from pieces, right and wrong ones, against a reading that knows at each place what can stand there; and each
- * THING that a text can tell, with what is foretold of it found by trying one number behind another.
+ * Texts put together from pieces, right and wrong ones, against a reading that knows at each place what can stand there; and a
+ * THING of every YELLOW and WHITE under every BOUND, with what is foretold of it found by trying one number behind another.
  */
 public final class EachOfManyTexts {
     private static final int TEXTS = 300000;
